@@ -662,7 +662,6 @@ public final class ModelTest {
         final Random random;
         final FeatureClashes object = new FeatureClashes();
         final Model model = new Model();
-        final StringBuilder calls = new StringBuilder();
         /** How often a call has an argument by chance from far outside. */
         final double wild;
         int made = 0;
@@ -705,7 +704,6 @@ public final class ModelTest {
 
         private void due(String call, long got, long want) {
             made++;
-            calls.append(call).append(" = ").append(want).append('\n');
             if (got != want) {
                 wrong++;
                 System.out.println("run " + number + ", call " + made + ": " + call + " answered " + got

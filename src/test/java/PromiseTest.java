@@ -52,10 +52,13 @@ public final class PromiseTest {
         clashOfOffFeatures();
         witness();
         longestWitness();
+        witnessAmongManyWords();
         clashes();
         results();
         mostResults();
         resultsThatAreAlike();
+        resultsThatComeBack();
+        resultsThatDifferLate();
         reach();
         setBefore();
         clearPriorities();
@@ -169,6 +172,9 @@ public final class PromiseTest {
         due(x.changes(0), 0);
         due(x.isBefore(0, 1), 0);
         due(x.setOn(1, true), 1);
+        x.begin(3, 2);
+        due(x.orders(), 1);
+        due(x.resolved(0), NONE);
     }
 
     private static void beginKeepsTextAndSlots() {
@@ -611,6 +617,30 @@ public final class PromiseTest {
         due(x.witness(0, 1, 15), NONE);
     }
 
+    /** Many words lead to the same states; only the first one to each of them counts. */
+    private static void witnessAmongManyWords() {
+        promise(17);
+        FeatureClashes x = withFeatures(8, 4, 2);
+        int[] way = {3, 1, 2, 0, 3, 2, 1};
+        for (int state = 0; state < 8; state++) {
+            for (int letter = 0; letter < 4; letter++) {
+                x.setArrow(state, letter, 0, 0);
+            }
+        }
+        for (int state = 0; state < 7; state++) {
+            for (int letter = way[state]; letter < 4; letter++) {
+                x.setArrow(state, letter, state + 1, 0);
+            }
+        }
+        x.change(0, 7, 2, 0, 1);
+        x.change(1, 7, 2, 0, 2);
+        for (int index = 0; index < 7; index++) {
+            due(x.witness(0, 1, index), way[index]);
+        }
+        due(x.witness(0, 1, 7), 2);
+        due(x.witness(0, 1, 8), NONE);
+    }
+
     private static void clashes() {
         promise(18);
         FeatureClashes x = rivals(6);
@@ -695,6 +725,53 @@ public final class PromiseTest {
         due(x.results(), 2);
         x.changeToNone(2, 0, 0);
         due(x.results(), 2);
+    }
+
+    /** No arrow, an arrow back to state 0 and one to a state that is like it. */
+    private static void resultsThatComeBack() {
+        promise(19);
+        FeatureClashes x = withFeatures(3, 2, 3);
+        x.setArrow(0, 0, 0, 0);
+        x.setArrow(1, 0, 1, 0);
+        x.setArrow(0, 1, 0, 0);
+        x.setArrow(1, 1, 1, 0);
+        x.change(0, 0, 1, 0, 0);
+        x.change(1, 0, 1, 1, 0);
+        due(x.results(), 1);
+        x.changeToNone(2, 0, 1);
+        due(x.results(), 2);
+        x.change(2, 0, 1, 2, 0);
+        due(x.results(), 2);
+        // All states answer 0 for ever then, whichever feature is last.
+        x.setArrow(2, 0, 1, 0);
+        x.setArrow(2, 1, 1, 0);
+        due(x.results(), 1);
+        x.setArrow(1, 1, 1, 9);
+        due(x.results(), 3);
+        x.setArrow(2, 1, 1, 9);
+        due(x.results(), 2);
+    }
+
+    /** Two chains of states that differ only at their ends. */
+    private static void resultsThatDifferLate() {
+        promise(19);
+        FeatureClashes x = withFeatures(8, 1, 2);
+        x.change(0, 0, 0, 1, 0);
+        x.change(1, 0, 0, 4, 0);
+        for (int i = 0; i < 2; i++) {
+            x.setArrow(1 + i, 0, 2 + i, 0);
+            x.setArrow(4 + i, 0, 5 + i, 0);
+        }
+        due(x.results(), 1);
+        x.setArrow(3, 0, 7, 0);
+        due(x.results(), 2);
+        x.setArrow(6, 0, 7, 0);
+        due(x.results(), 1);
+        x.setArrow(6, 0, 7, 1);
+        due(x.results(), 2);
+        due(x.clash(0, 1), 1);
+        x.setArrow(3, 0, 7, 1);
+        due(x.results(), 1);
     }
 
     private static void reach() {
@@ -892,6 +969,16 @@ public final class PromiseTest {
         due(y.isResolved(), 0);
         y.setBefore(1, 0);
         due(y.isResolved(), 1);
+        // A priority between features that change nothing in common settles nothing else.
+        FeatureClashes z = withFeatures(1, 2, 3);
+        z.change(0, 0, 0, 0, 1);
+        z.change(1, 0, 0, 0, 2);
+        z.change(2, 0, 1, 0, 3);
+        z.setBefore(2, 0);
+        due(z.isResolved(), 0);
+        z.setBefore(1, 2);
+        due(z.isResolved(), 1);
+        due(z.open(), 0);
     }
 
     private static void resolve() {
@@ -1059,6 +1146,13 @@ public final class PromiseTest {
         due(x.restore(0), 3);
         due(x.checksum(), sum);
         due(x.clearWord(), 0);
+        x.add(0);
+        due(x.answer(-1, 0), 9);
+        due(x.answer(0, 0), 0);
+        due(x.answer(1, 0), 1);
+        due(x.answer(2, 0), 2);
+        due(x.restore(0), 3);
+        due(x.clearWord(), 0);
         due(x.clearText(), 4);
         due(x.isBefore(2, 0), 1);
         due(x.isBefore(0, 2), 0);
@@ -1106,6 +1200,19 @@ public final class PromiseTest {
         due(x.checksum(), sum);
         x.save(1);
         due(x.checksum(), sum);
+        // The word of effect() is another one than the witness of the last pair.
+        FeatureClashes y = withFeatures(2, 2, 2);
+        y.setArrow(0, 1, 1, 6);
+        y.change(0, 1, 0, 1, 7);
+        y.change(1, 1, 0, 1, 8);
+        y.change(1, 0, 0, 0, 2);
+        long other = mix(83, 2);
+        other = mix(other, 1, 1, 1, 1, 0);
+        other = mix(other, 2, 2);
+        other = mix(other, 1, 2, 1, 0);
+        other = mix(other, 0, 1);
+        other = mix(other, 0);
+        due(y.checksum(), other);
     }
 
     /** Each error is reported while there is much that it could spoil. */
