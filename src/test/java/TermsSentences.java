@@ -168,9 +168,26 @@ final class TermsSentences {
             due(y.effect(0), 0);
             // Both go through the states, each at its own pace, for as long as it takes.
             due(longest(), 15);
+            dueRemovedDiffers(0, 1);
+            dueRemovedDiffers(1, 0);
             dueEachArrowCounts();
             dueNothingLeftBehind();
         });
+    }
+
+    /** One feature sets an arrow, the other one removes it: which one is last makes a difference. */
+    private static void dueRemovedDiffers(int setter, int remover) {
+        for (int output = 0; output <= 9; output++) {
+            FeatureClashes x = Made.plain(1, 1, 2);
+            x.change(setter, 0, 0, 0, output);
+            x.changeToNone(remover, 0, 0);
+            due(x.clash(0, 1), 1);
+            due(x.results(), 2);
+            due(x.isResolved(), 0);
+            x.setBefore(setter, remover);
+            due(x.isResolved(), 1);
+            due(x.results(), 2);
+        }
     }
 
     /** Eight states that all differ: any arrow, set in two ways, makes machines that are not alike. */
